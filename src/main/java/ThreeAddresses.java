@@ -22,6 +22,8 @@ public final class ThreeAddresses {
     private static final int HAS = 0, BACK = 1, LOST = 2, UNDER_WAY = -1;
     // A letter is stamped till it has one STAMP more than the most THICK, and is in one house more than that.
     private static final int MOST_STOPS = MOST_THICK + 2;
+    // Above any DAY: the latest leaves on day 99, and is less than 100 days under way.
+    private static final int NEVER = 1000;
 
     private static final int SHEETS = 4, MOST_ITEMS = 40, MOST_TOLD = 20;
     private static final int MISSING = -1, BYTES = 0, SHORTS = 1, INTS = 2;
@@ -303,7 +305,7 @@ public final class ThreeAddresses {
 
     private int countOvertaken(int house) {
         int count = 0;
-        int soonestOfLater = Integer.MAX_VALUE;
+        int soonestOfLater = NEVER;
         for (int day = LAST_DAY; day >= 0; day--) {
             follow(house, day);
             if (walk.end == HAS) {
@@ -1375,7 +1377,7 @@ public final class ThreeAddresses {
                 } else if (step > DO_NOT) {
                     top--;
                 }
-                if (between(top, 1, STACK_ROOM)) {
+                if (top >= 1 && top <= STACK_ROOM) {
                     stack[top - 1] = value;
                 }
             }

@@ -12,10 +12,10 @@ public final class PlainModelTest {
     private static int asked = 0;
 
     public static void main(String[] args) {
-        for (int seed = 1; seed <= 400 && wrong < 20; seed++) {
+        for (int seed = 1; seed <= 300 && wrong < 20; seed++) {
             run(seed);
         }
-        for (int seed = 1; seed <= 60000 && wrong < 20; seed++) {
+        for (int seed = 1; seed <= 40000 && wrong < 20; seed++) {
             readTexts(seed);
         }
         System.out.println("model: " + asked + " answers, " + wrong + " wrong");
@@ -434,8 +434,10 @@ public final class PlainModelTest {
             return out;
         }
 
+        static final List<String> NAMES = Arrays.asList("day", "house", "stamps", "number", "order", "long");
+
         static boolean isValue(String t) {
-            return t.matches("[0-9]+|day|house|stamps|number|order|long");
+            return Character.isDigit(t.charAt(0)) || NAMES.contains(t);
         }
 
         /** By a stack of frames, one for each open ( : {comparison seen, nots open, minuses open}. */
@@ -534,8 +536,8 @@ public final class PlainModelTest {
             }
             if (t.get(0).equals("-")) return -value(t.subList(1, t.size()), names);
             if (t.get(0).equals("(")) return value(t.subList(1, t.size() - 1), names);
-            if (t.get(0).matches("[0-9]+")) return Integer.parseInt(t.get(0));
-            return names[Arrays.asList("day", "house", "stamps", "number", "order", "long").indexOf(t.get(0))];
+            if (Character.isDigit(t.get(0).charAt(0))) return Integer.parseInt(t.get(0));
+            return names[NAMES.indexOf(t.get(0))];
         }
 
         static int lastOf(List<String> t, String[] signs) {

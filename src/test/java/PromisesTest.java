@@ -148,6 +148,10 @@ public final class PromisesTest {
         due(4, "thick 21", x.set(0, 0, 21), NO_SUCH);
         due(4, "thick 0", x.set(0, 0, 0), NO_SUCH);
         due(4, "number 9", x.set(1, 0, 9), 3);
+        due(4, "number 0", x.set(1, 0, 0), 9);
+        due(4, "number 9 again", x.set(1, 0, 9), 0);
+        due(4, "first 0", x.set(4, 0, 0), 30);
+        due(4, "first 30 again", x.set(4, 0, 30), 0);
         due(4, "number 10", x.set(1, 0, 10), NO_SUCH);
         due(4, "number -1", x.set(1, 0, -1), NO_SUCH);
         due(4, "from as to", x.set(2, 0, 4), NO_SUCH);
@@ -528,6 +532,20 @@ public final class PromisesTest {
         y.set(5, 0, 41);
         // By order 0 twice it is only with stamps on 40 .. 41: it comes back too late.
         due(12, "no round in a short time", y.reaches(1, 5), NONE);
+        // Day 0 counts as any other: he has that of day 0 alone.
+        ThreeAddresses z = fresh();
+        z.move(1, 7);
+        int[] first = {1, 0, 990, 0, 0, NONE};
+        for (int what = 0; what < 6; what++) {
+            due(12, "day 0 alone, " + what, z.reaches(0, what), first[what]);
+        }
+        // That of day 0 is 11 days under way, that of day 1 is there sooner; that of day 2 is the last.
+        z.order(19, 37, 0);
+        z.order(0, 37, 102);
+        int[] slow = {3, 2, 970, 11, 1, NONE};
+        for (int what = 0; what < 6; what++) {
+            due(12, "day 0 overtaken, " + what, z.reaches(3, what), slow[what]);
+        }
         due(12, "house 8", y.reaches(8, 0), BAD);
         due(12, "house -1", y.reaches(-1, 0), BAD);
         due(12, "what 6", y.reaches(0, 6), BAD);
@@ -564,6 +582,13 @@ public final class PromisesTest {
         due(13, "house 8", x.needless(8, 1), BAD);
         due(13, "what 3", x.needless(0, 3), BAD);
         due(13, "what -1", x.needless(0, -1), BAD);
+        // An order that serves that of day 0 alone.
+        ThreeAddresses z = fresh();
+        z.move(0, 7);
+        z.order(0, 7, 0);
+        due(13, "day 0 needs it", z.needless(0, 0), 0);
+        due(13, "day 0: enough", z.needless(0, 1), 1);
+        due(13, "day 0: costs", z.needless(0, 2), 5);
         // Orders keep their numbers where others are left out.
         ThreeAddresses y = fresh();
         y.move(0, 3);
@@ -702,6 +727,15 @@ public final class PromisesTest {
         due(16, "first of these", x.covers(2, 1), 39);
         x.cell(2, 1, 7);
         due(16, "never", x.covers(2, 0), 0);
+        ThreeAddresses y = fresh();
+        y.move(0, 7);
+        y.order(0, 7, 0);
+        y.film(0, 0, 0);
+        int[] alone = {1, 0, 1, 1};
+        for (int what = 0; what < 4; what++) {
+            due(16, "day 0 alone, " + what, y.covers(0, what), alone[what]);
+        }
+        due(16, "day 0 alone, kinds: all but by ship", y.covers(0, 10), 63 - 8);
         due(16, "never: first", x.covers(2, 1), NONE);
         due(16, "never: orders", x.covers(2, 2), 0);
         due(16, "never: texts", x.covers(2, 3), 0);
@@ -828,7 +862,7 @@ public final class PromisesTest {
             }
             due(21, "lives(25)", x.lives(25), 1);
             due(21, "a letter", x.letter(0, 15, 1), 24);
-            due(21, "a letter from 4", x.letter(4, 15, 0), 2);
+            due(21, "a letter in 4 is not sent on", x.letter(4, 15, 2), 4);
             due(21, "the sheet stays", x.cell(0, 1, 1), 1);
             // Another kind in the place of the one that went.
             due(21, "an order", x.order(56, 70, 5050), 2);
