@@ -340,7 +340,7 @@ public final class ThreeAddresses {
             return needlessOrders(house, now);
         }
         int cheapest = cheapestEnough(house, now);
-        return what == 1 ? cheapest : post.costOfSet(cheapest);
+        return what == 1 ? cheapest : post.sumOfPrices(cheapest);
     }
 
     private int needlessOrders(int house, int now) {
@@ -927,6 +927,7 @@ public final class ThreeAddresses {
             return v < low ? low : v > high ? high : v;
         }
 
+        /** Reckons what each order costs; sumOfPrices() adds these up, for many sets. */
         void priceOrders() {
             for (int i = 0; i < orderCount; i++) {
                 prices[i] = costOf(i);
@@ -941,11 +942,6 @@ public final class ThreeAddresses {
                 }
             }
             return sum;
-        }
-
-        int costOfSet(int set) {
-            priceOrders();
-            return sumOfPrices(set);
         }
     }
 

@@ -429,8 +429,8 @@ public final class EdgesOfLettersTest {
             ThreeAddresses x = Edges.fresh();
             x.order(5, 21, 99);
             x.order(5, 34, 99);
-            Edges.rule(x, "takes 1;costs 1;minds number+order;");
-            Edges.due("reaches(3, 2)", x.reaches(3, 2), 0);
+            Edges.rule(x, "takes 1;costs 1;minds 7+number+order*3;");
+            Edges.due("reaches(3, 2)", x.reaches(3, 2), 700);
         });
         Edges.edge(12, "GRIEF: of those that he doesn't HAVE", () -> Edges.due("he HAS all", griefBy("999", 0), 0));
     }
@@ -852,24 +852,35 @@ public final class EdgesOfLettersTest {
             ThreeAddresses x = Edges.fresh();
             Edges.due("that of 99, too", x.oneMore(1, 50, 1), 100);
         });
-        Edges.edge(14, "KIND 0, NUMBER 0, behind all others: its number", () -> {
-            ThreeAddresses x = Edges.fresh();
-            x.order(9, 34, 99);
-            x.order(9, 34, 99);
-            x.move(50, 7);
-            Edges.rule(x, "takes 1+(order=2)*9+number*2;costs 1;minds 1;");
-            // By 1 to 0 in 10 DAYS: those of 0 .. 39 he HAS; 1 to 7 all.
-            Edges.due("which", x.oneMore(1, 0, 0), 17);
-            x.set(6, 0, 0);
-            x.order(0, 15, 4099);
-            Edges.rule(x, "takes 1+(order=3)*9+number*2;costs 1;minds 1;");
-            // 5 to 0 in 10 DAYS takes those that come to 5 by 99: 0 .. 98.
-            Edges.due("behind that one", x.oneMore(1, 0, 0), 50);
-            Edges.due("how many", x.oneMore(1, 0, 1), 99);
-            x.move(70, 4);
-            // In 0 till 69: 1 to 0 takes those of 0 .. 39, 5 to 0 those that are in 5 by 59.
-            Edges.due("till 69", x.oneMore(1, 0, 0), 54);
+        Edges.edge(14, "plain: KIND 0", () -> timedOneMore("11", 61));
+        Edges.edge(14, "plain: NUMBER 0", () -> timedOneMore("11+number*10", 61));
+        Edges.edge(14, "behind all others: its number", () -> {
+            timedOneMore("1+(order=1)*10", 61);
+            timedOneMore("1+(order=0)*10+(order=2)*10", 51);
         });
+        Edges.edge(14, "behind all others: those FROM there that SEND are first", () -> {
+            ThreeAddresses x = Edges.fresh();
+            x.order(0, 15, 4099);
+            // 5 to 0 takes those that come to 5 by 99: 0 .. 97; 1 to 0 those of 0 .. 39.
+            Edges.due("which", x.oneMore(1, 0, 0), 50);
+            Edges.due("how many", x.oneMore(1, 0, 1), 98);
+            x.set(4, 0, 99);
+            Edges.due("which, where that one stands on 99 alone", x.oneMore(1, 0, 0), 10);
+            Edges.due("how many then", x.oneMore(1, 0, 1), 99);
+        });
+    }
+
+    /**
+     * He lives in 0 till 49, in 7 from 50 on; what comes to 7 by 49 is sent to 6, and LOST.
+     * So one more, 1 to 7, serves those that are there on 50 or later: it matters how long it takes.
+     */
+    private static void timedOneMore(String takes, int most) {
+        ThreeAddresses x = Edges.fresh();
+        x.move(50, 7);
+        x.order(0, 76, 49);
+        Edges.rule(x, "takes " + takes + ";costs 1;minds 1;");
+        Edges.due("which, takes " + takes, x.oneMore(1, 0, 0), 17);
+        Edges.due("how many, takes " + takes, x.oneMore(1, 0, 1), most);
     }
 
     private static void oneMoreOfLikeOnes() {

@@ -4,6 +4,7 @@ import java.util.function.Consumer;
 public final class EdgesOfOrdersTest {
     public static void main(String[] args) {
         newObject();
+        manyCalls();
         move();
         moveRefused();
         orderWhat();
@@ -97,6 +98,28 @@ public final class EdgesOfOrdersTest {
             Edges.due("lives(50)", x.lives(50), 0);
             Edges.due("a letter to 1", x.letter(1, 0, 2), 1);
         });
+    }
+
+    private static void manyCalls() {
+        Edges.edge(1, "an object is used for at most 512 calls: the last 16 of these answer as the first", () -> {
+            ThreeAddresses x = Edges.fresh();
+            for (int round = 0; round < 32; round++) {
+                int[] got = sixteenCalls(x);
+                int[] want = {0, 0, 1, 9, 1, 1, 2, 100, 100, 1, 100, 10, 1, -100, 1, 0};
+                for (int i = 0; i < 16; i++) {
+                    Edges.due("call " + (16 * round + i + 1), got[i], want[i]);
+                }
+            }
+        });
+    }
+
+    /** What the first of these calls keep is laid back by the last. */
+    private static int[] sixteenCalls(ThreeAddresses x) {
+        return new int[] {
+            x.image(), x.order(0, 12, 99), x.move(0, 2), x.set(0, 0, 5), x.sheet(0, 2, 3), x.cell(0, 2, 7), x.film(1, 1, 0),
+            x.covers(1, 0), x.reaches(1, 0), x.needless(1, 1), x.oneMore(1, 0, 1), x.drawn(1, 3), x.feed('t'), x.text(),
+            x.count(0), x.back(),
+        };
     }
 
     private static void fill(ThreeAddresses x, int n) {

@@ -197,6 +197,17 @@ public final class EdgesOfTextsTest {
             fault("takes 1 ^andd 1" + REST);
             fault("takes ^no 1" + REST);
         });
+        Edges.edge(9, "a WORD that is neither: each of its letters counts", () -> {
+            String[] words = {"takes", "costs", "minds", "day", "house", "stamps", "number", "order", "long", "or", "and", "not"};
+            String[] before = {"", "takes 1;", "takes 1;costs 1;", "takes ", "takes ", "takes ", "takes ", "takes ", "takes ",
+                "takes 1 ", "takes 1 ", "takes "};
+            for (int w = 0; w < words.length; w++) {
+                for (int i = 0; i < words[w].length(); i++) {
+                    String other = words[w].substring(0, i) + "x" + words[w].substring(i + 1);
+                    fault(before[w] + "^" + other + " 1;");
+                }
+            }
+        });
         Edges.edge(9, "a NAME with a large letter", () -> {
             fault("takes ^Day" + REST);
             fault("takes ^dAy" + REST);
@@ -419,6 +430,8 @@ public final class EdgesOfTextsTest {
             is("not 0", 1);
             is("not 256*256*256*256", 1);
             is("not 256*256*256*128", 0);
+            is("5+(not 3)", 5);
+            is("5+(not 0)", 6);
         });
         Edges.edge(9, "of or 1 or 0", () -> {
             is("7 or 0", 1);
@@ -426,6 +439,8 @@ public final class EdgesOfTextsTest {
             is("0 or 0", 0);
             is("5 or 9", 1);
             is("-1 or 1", 1);
+            is("5+(0 or 0)", 5);
+            is("5+(0 or 7)", 6);
         });
         Edges.edge(9, "of and 1 or 0", () -> {
             is("7 and 9", 1);
@@ -433,6 +448,8 @@ public final class EdgesOfTextsTest {
             is("0 and 7", 0);
             is("0 and 0", 0);
             is("-1 and 2", 1);
+            is("5+(7 and 0)", 5);
+            is("5+(7 and 9)", 6);
         });
         Edges.edge(9, "of < 1 or 0", () -> {
             is("2<2", 0);
@@ -440,12 +457,16 @@ public final class EdgesOfTextsTest {
             is("2<1", 0);
             is("-1<0", 1);
             is("0<-1", 0);
+            is("5+(2<1)", 5);
+            is("5+(1<2)", 6);
         });
         Edges.edge(9, "of = 1 or 0", () -> {
             is("2=2", 1);
             is("2=3", 0);
             is("0=0", 1);
             is("1=-1", 0);
+            is("5+(2=3)", 5);
+            is("5+(2=2)", 6);
         });
     }
 
