@@ -319,18 +319,17 @@ public final class EdgesOfHostTest {
         });
     }
 
-    /** Whether a sheet of ints has these items: each is read back as what of an order. */
+    /** Whether a sheet of ints has these items: each is read back as KIND and NUMBER of an order that goes again. */
     private static void items(ThreeAddresses x, int sheet, int... want) {
         Edges.due("how many items", Edges.size(x, sheet), want.length);
-        ThreeAddresses probe = x;
         for (int i = 0; i < want.length; i++) {
-            Edges.ints(probe, 3, 0, 12, 99);
-            probe.image();
-            probe.copy(sheet, i, 3, 0, 1);
-            int came = probe.orders(3, 2, 0, 1);
-            int got = came == 1 ? 10 * probe.told(probe.count(0) - 1, 7) + probe.told(probe.count(0) - 1, 1) : Edges.NONE;
-            probe.back();
-            Edges.due("item " + i, got, want[i]);
+            Edges.ints(x, 3, 0, 12, 99);
+            x.image();
+            x.copy(sheet, i, 3, 0, 1);
+            int came = x.orders(3, 2, 0, 1);
+            int last = x.count(0) - 1;
+            Edges.due("item " + i, came == 1 ? 10 * x.told(last, 7) + x.told(last, 1) : Edges.NONE, want[i]);
+            x.back();
         }
     }
 

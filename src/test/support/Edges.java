@@ -38,14 +38,6 @@ final class Edges {
         }
     }
 
-    /** Answers to one call after the other, each behind a blank. */
-    static void dueAll(String calls, long[] got, long... want) {
-        due(calls + ": how many", got.length, want.length);
-        for (int i = 0; i < got.length && i < want.length; i++) {
-            due(calls + ", number " + i, got[i], want[i]);
-        }
-    }
-
     /**
      * A refusal changes nothing: of two objects that were made alike one is asked what is refused;
      * all that can be seen of both is the same then.
